@@ -13,6 +13,9 @@ public final class LineSearch {
     private static final int MOST_TRIPS = 30;
     private static final int MOST_TERM = 10000;
 
+    /** Who goes all trips; of two, 0 goes the even ones and 1 the odd ones. */
+    private static final int ALONE = -1;
+
     /** A ray has been gone 0 to MOST_STEPS steps far. */
     private static final int DEPTHS = MOST_STEPS + 1;
     private static final int STATES = DEPTHS * DEPTHS * DEPTHS;
@@ -116,7 +119,7 @@ public final class LineSearch {
             case 1:
                 return plan.stepsOf(i);
             case 2:
-                return wholeTrips(plan.stepsAhead(i, 1));
+                return wholeTrips(plan.stepsAhead(i, ALONE));
             default:
                 return OUTSIDE;
         }
@@ -264,7 +267,8 @@ public final class LineSearch {
         if (!plan.has(i)) {
             return NONE;
         }
-        int ahead = plan.stepsAhead(i, 2);
+        int who = i % 2;
+        int ahead = plan.stepsAhead(i, who);
         int met = wholeTrips(ahead) + out * steps;
         switch (what) {
             case 0:
@@ -272,7 +276,7 @@ public final class LineSearch {
             case 1:
                 return wholeTrips(ahead + plan.stepsOf(i));
             case 2:
-                return i % 2;
+                return who;
             default:
                 return lowest(met, out * steps, what - 3);
         }
@@ -280,7 +284,7 @@ public final class LineSearch {
 
     public int end() {
         int count = plan.count;
-        return wholeTrips(Math.max(plan.stepsAhead(count, 2), plan.stepsAhead(count + 1, 2)));
+        return wholeTrips(Math.max(plan.stepsAhead(count, 0), plan.stepsAhead(count, 1)));
     }
 
     public int told(int what) {
@@ -298,7 +302,7 @@ public final class LineSearch {
             case 5:
                 return ground.allShares();
             case 6:
-                return wholeTrips(plan.stepsAhead(plan.count, 1));
+                return wholeTrips(plan.stepsAhead(plan.count, ALONE));
             default:
                 return OUTSIDE;
         }
@@ -312,8 +316,8 @@ public final class LineSearch {
 
     /** The way of a place that there is, or NONE. */
     private int wayTo(int ray, int steps) {
-        int i = plan.firstTo(ray, steps, 0, 1);
-        return i < 0 ? NONE : wholeTrips(plan.stepsAhead(i, 1)) + out * steps;
+        int i = plan.firstTo(ray, steps, ALONE);
+        return i < 0 ? NONE : wholeTrips(plan.stepsAhead(i, ALONE)) + out * steps;
     }
 
     private int countMissed() {
@@ -345,15 +349,15 @@ public final class LineSearch {
 
     /** The trip of the one of two who is first at a place, the first one's of both at once, or -1. */
     private int tripThatMeets(int ray, int steps) {
-        int first = plan.firstTo(ray, steps, 0, 2);
-        int second = plan.firstTo(ray, steps, 1, 2);
+        int first = plan.firstTo(ray, steps, 0);
+        int second = plan.firstTo(ray, steps, 1);
         if (first < 0) {
             return second;
         }
         if (second < 0) {
             return first;
         }
-        return plan.stepsAhead(second, 2) < plan.stepsAhead(first, 2) ? second : first;
+        return plan.stepsAhead(second, 1) < plan.stepsAhead(first, 0) ? second : first;
     }
 
     private static int placeOf(Plan plan, int i) {
@@ -512,21 +516,28 @@ public final class LineSearch {
             }
         }
 
-        /** The first of the trips from, from + stride, .. that comes to a place, or -1. */
-        int firstTo(int ray, int steps, int from, int stride) {
-            for (int i = from; i < count; i += stride) {
-                if (rayOf(i) == ray && stepsOf(i) >= steps) {
+        /** Whether a trip is for the one of two, or for the one who is alone. */
+        private static boolean isFor(int who, int i) {
+            return who == ALONE || i % 2 == who;
+        }
+
+        /** The first trip of theirs that comes to a place, or -1. */
+        int firstTo(int ray, int steps, int who) {
+            for (int i = 0; i < count; i++) {
+                if (isFor(who, i) && rayOf(i) == ray && stepsOf(i) >= steps) {
                     return i;
                 }
             }
             return -1;
         }
 
-        /** All steps, counted one way, of the trips i - stride, i - 2 stride, .. */
-        int stepsAhead(int i, int stride) {
+        /** All steps, counted one way, of their trips ahead of one. */
+        int stepsAhead(int ahead, int who) {
             int sum = 0;
-            for (int j = i - stride; j >= 0; j -= stride) {
-                sum += stepsOf(j);
+            for (int i = 0; i < ahead && i < count; i++) {
+                if (isFor(who, i)) {
+                    sum += stepsOf(i);
+                }
             }
             return sum;
         }
@@ -554,7 +565,7 @@ public final class LineSearch {
      */
     private static final class Outlook {
         private final int[] most;
-        /** The same where the next trip is on a told ray, its cap left aside. */
+        /** The same with the next trip on a told ray, its cap left aside; by how far the others are gone. */
         private final int[] mostOnRay;
         /** By steps: the most that may have been spent before a trip finds that place first. */
         private final int[] caps;
@@ -567,7 +578,7 @@ public final class LineSearch {
 
         Outlook() {
             most = new int[STATES];
-            mostOnRay = new int[MOST_RAYS * STATES];
+            mostOnRay = new int[MOST_RAYS * DEPTHS * DEPTHS];
             caps = new int[DEPTHS];
             prices = new int[MOST_RAYS * DEPTHS];
             basePrice = 0;
@@ -646,22 +657,34 @@ public final class LineSearch {
             return ray < rays ? reach : 0;
         }
 
+        /** For this state from those one step farther out, which the sweep has just left. */
         private void settle() {
-            int state = stateAfter(0, gone[0]);
             boolean anyLeft = false;
             int best = -PURSE;
             for (int ray = 0; ray < rays; ray++) {
-                int bestOnRay = -PURSE;
+                int row = rowOf(ray);
                 int steps = gone[ray] + 1;
-                if (steps <= reach) {
-                    anyLeft = true;
-                    int next = stateAfter(ray, steps);
-                    bestOnRay = Math.max(most[next] - costOf(ray, steps), mostOnRay[ray * STATES + next]);
-                    best = Math.max(best, Math.min(caps[steps], bestOnRay));
+                if (steps > reach) {
+                    mostOnRay[row] = -PURSE;
+                    continue;
                 }
-                mostOnRay[ray * STATES + state] = bestOnRay;
+                anyLeft = true;
+                int thatFar = most[stateAfter(ray, steps)] - costOf(ray, steps);
+                // The row still tells of trips that go farther than that.
+                mostOnRay[row] = Math.max(thatFar, mostOnRay[row]);
+                best = Math.max(best, Math.min(caps[steps], mostOnRay[row]));
             }
-            most[state] = anyLeft ? best : PURSE;
+            most[stateAfter(0, gone[0])] = anyLeft ? best : PURSE;
+        }
+
+        private int rowOf(int ray) {
+            int row = ray;
+            for (int r = 0; r < MOST_RAYS; r++) {
+                if (r != ray) {
+                    row = row * DEPTHS + gone[r];
+                }
+            }
+            return row;
         }
 
         /** The state that a trip leads to from where all has been gone. */
