@@ -19,6 +19,8 @@ public final class LineSearch {
     /** A ray has been gone 0 to MOST_STEPS steps far. */
     private static final int DEPTHS = MOST_STEPS + 1;
     private static final int STATES = DEPTHS * DEPTHS * DEPTHS;
+    /** How far two rays have been gone. */
+    private static final int ROWS = DEPTHS * DEPTHS;
 
     /** 1 to MOST_STEPS all divide it, so that every fraction by steps is a whole number of parts. */
     private static final int PARTS = 840;
@@ -404,6 +406,24 @@ public final class LineSearch {
         return greater;
     }
 
+    // All rows are read and written here, so that no index goes unlooked at.
+
+    private static int at(int[] row, int i) {
+        return i >= 0 && i < row.length ? row[i] : 0;
+    }
+
+    private static void put(int[] row, int i, int v) {
+        if (i >= 0 && i < row.length) {
+            row[i] = v;
+        }
+    }
+
+    private static void putAll(int[] row, int v) {
+        for (int i = 0; i < row.length; i++) {
+            row[i] = v;
+        }
+    }
+
     /** The rays, how many steps each is long, and the shares of their places. */
     private static final class Ground {
         int rays;
@@ -418,9 +438,7 @@ public final class LineSearch {
         void lay(int m, int steps) {
             rays = m;
             reach = steps;
-            for (int i = 0; i < shares.length; i++) {
-                shares[i] = 1;
-            }
+            putAll(shares, 1);
         }
 
         boolean isOf(int m, int steps) {
@@ -432,12 +450,12 @@ public final class LineSearch {
         }
 
         int shareAt(int ray, int steps) {
-            return has(ray, steps) ? shares[ray * DEPTHS + steps] : 0;
+            return has(ray, steps) ? at(shares, ray * DEPTHS + steps) : 0;
         }
 
         void setShare(int ray, int steps, int v) {
             if (has(ray, steps)) {
-                shares[ray * DEPTHS + steps] = v;
+                put(shares, ray * DEPTHS + steps, v);
             }
         }
 
@@ -480,19 +498,19 @@ public final class LineSearch {
         }
 
         int rayOf(int i) {
-            return has(i) ? onRay[i] : 0;
+            return has(i) ? at(onRay, i) : 0;
         }
 
         int stepsOf(int i) {
-            return has(i) ? toSteps[i] : 0;
+            return has(i) ? at(toSteps, i) : 0;
         }
 
         boolean add(int ray, int steps) {
             if (count >= MOST_TRIPS) {
                 return false;
             }
-            onRay[count] = ray;
-            toSteps[count] = steps;
+            put(onRay, count, ray);
+            put(toSteps, count, steps);
             count++;
             return true;
         }
@@ -564,27 +582,29 @@ public final class LineSearch {
      * the states behind it, and with it both bests and their first plans.
      */
     private static final class Outlook {
-        private final int[] most;
-        /** The same with the next trip on a told ray, its cap left aside; by how far the others are gone. */
-        private final int[] mostOnRay;
+        private int rays;
+        private int reach;
         /** By steps: the most that may have been spent before a trip finds that place first. */
         private final int[] caps;
         /** By ray and how far it has been gone: its part of the price. */
         private final int[] prices;
         private int basePrice;
+        /** By state: the most that may have been spent on coming to it. */
+        private final int[] most;
+        /** By ray and how far the others are gone: the same if the next trip is on it, but for its cap. */
+        private final int[] mostOnRay;
+        /** How far each ray has been gone while a plan is written. */
         private final int[] gone;
-        private int rays;
-        private int reach;
 
         Outlook() {
-            most = new int[STATES];
-            mostOnRay = new int[MOST_RAYS * DEPTHS * DEPTHS];
+            rays = 0;
+            reach = 0;
             caps = new int[DEPTHS];
             prices = new int[MOST_RAYS * DEPTHS];
             basePrice = 0;
+            most = new int[STATES];
+            mostOnRay = new int[MOST_RAYS * ROWS];
             gone = new int[MOST_RAYS];
-            rays = 0;
-            reach = 0;
         }
 
         /** Finds the plan of the least mean, and answers its sum of shares times steps ahead. */
@@ -595,16 +615,15 @@ public final class LineSearch {
             for (int ray = 0; ray < MOST_RAYS; ray++) {
                 int unfound = 0;
                 for (int steps = MOST_STEPS; steps >= 0; steps--) {
-                    prices[ray * DEPTHS + steps] = unfound;
+                    put(prices, ray * DEPTHS + steps, unfound);
                     unfound += ground.shareAt(ray, steps);
                 }
             }
-            for (int steps = 0; steps < caps.length; steps++) {
-                caps[steps] = PURSE;
-            }
+            putAll(caps, PURSE);
             sweep();
-            write(most[0], plan);
-            return PURSE - most[0];
+            int spent = at(most, 0);
+            write(spent, plan);
+            return PURSE - spent;
         }
 
         /** Finds the plan of the least worst case, and answers its steps ahead by steps, in parts. */
@@ -612,31 +631,30 @@ public final class LineSearch {
             rays = ground.rays;
             reach = ground.reach;
             basePrice = 1;
-            for (int i = 0; i < prices.length; i++) {
-                prices[i] = 0;
-            }
+            putAll(prices, 0);
             int tooFew = 0;
             // Ray by ray, each to its end, is never worse than this.
             int enough = PARTS * reach * (rays - 1);
             for (int i = 0; i < HALVINGS && enough - tooFew > 1; i++) {
                 int middle = (tooFew + enough) / 2;
-                sweepWithin(middle);
-                if (most[0] >= 0) {
+                capBy(middle);
+                sweep();
+                if (at(most, 0) >= 0) {
                     enough = middle;
                 } else {
                     tooFew = middle;
                 }
             }
-            sweepWithin(enough);
+            capBy(enough);
+            sweep();
             write(0, plan);
             return enough;
         }
 
-        private void sweepWithin(int parts) {
-            for (int steps = 0; steps < caps.length; steps++) {
-                caps[steps] = parts * steps / PARTS;
+        private void capBy(int parts) {
+            for (int steps = 0; steps < DEPTHS; steps++) {
+                put(caps, steps, parts * steps / PARTS);
             }
-            sweep();
         }
 
         /** From the state where all has been gone back to the one where nothing has. */
@@ -644,10 +662,7 @@ public final class LineSearch {
             for (int a = lengthOf(0); a >= 0; a--) {
                 for (int b = lengthOf(1); b >= 0; b--) {
                     for (int c = lengthOf(2); c >= 0; c--) {
-                        gone[0] = a;
-                        gone[1] = b;
-                        gone[2] = c;
-                        settle();
+                        settle(a, b, c);
                     }
                 }
             }
@@ -657,59 +672,36 @@ public final class LineSearch {
             return ray < rays ? reach : 0;
         }
 
-        /** For this state from those one step farther out, which the sweep has just left. */
-        private void settle() {
-            boolean anyLeft = false;
-            int best = -PURSE;
-            for (int ray = 0; ray < rays; ray++) {
-                int row = rowOf(ray);
-                int steps = gone[ray] + 1;
-                if (steps > reach) {
-                    mostOnRay[row] = -PURSE;
-                    continue;
-                }
-                anyLeft = true;
-                int thatFar = most[stateAfter(ray, steps)] - costOf(ray, steps);
-                // The row still tells of trips that go farther than that.
-                mostOnRay[row] = Math.max(thatFar, mostOnRay[row]);
-                best = Math.max(best, Math.min(caps[steps], mostOnRay[row]));
+        /** Settles one state, and offers it to those behind it as the end of a trip on each ray. */
+        private void settle(int a, int b, int c) {
+            int rowA = b * DEPTHS + c;
+            int rowB = ROWS + a * DEPTHS + c;
+            int rowC = 2 * ROWS + a * DEPTHS + b;
+            int best = Math.max(through(0, a, rowA), Math.max(through(1, b, rowB), through(2, c, rowC)));
+            if (a == lengthOf(0) && b == lengthOf(1) && c == lengthOf(2)) {
+                best = PURSE;
             }
-            most[stateAfter(0, gone[0])] = anyLeft ? best : PURSE;
+            put(most, (a * DEPTHS + b) * DEPTHS + c, best);
+            int price = basePrice + at(prices, a) + at(prices, DEPTHS + b) + at(prices, 2 * DEPTHS + c);
+            offer(0, a, rowA, best - a * price);
+            offer(1, b, rowB, best - b * price);
+            offer(2, c, rowC, best - c * price);
         }
 
-        private int rowOf(int ray) {
-            int row = ray;
-            for (int r = 0; r < MOST_RAYS; r++) {
-                if (r != ray) {
-                    row = row * DEPTHS + gone[r];
-                }
-            }
-            return row;
+        private int through(int ray, int far, int row) {
+            return far < lengthOf(ray) ? Math.min(at(caps, far + 1), at(mostOnRay, row)) : -PURSE;
         }
 
-        /** The state that a trip leads to from where all has been gone. */
-        private int stateAfter(int ray, int steps) {
-            int state = 0;
-            for (int r = 0; r < MOST_RAYS; r++) {
-                state = state * DEPTHS + (r == ray ? steps : gone[r]);
-            }
-            return state;
-        }
-
-        private int costOf(int ray, int steps) {
-            int price = basePrice;
-            for (int r = 0; r < MOST_RAYS; r++) {
-                price += prices[r * DEPTHS + (r == ray ? steps : gone[r])];
-            }
-            return price * steps;
+        private void offer(int ray, int far, int row, int value) {
+            // The end of the ray is come to first, and what an earlier sweep left there is void.
+            boolean first = far == lengthOf(ray);
+            put(mostOnRay, row, first ? value : Math.max(value, at(mostOnRay, row)));
         }
 
         /** The first plan by rays, then steps, that goes on to the end with so much spent at first. */
         private void write(int spentAtFirst, Plan plan) {
             plan.empty();
-            for (int r = 0; r < MOST_RAYS; r++) {
-                gone[r] = 0;
-            }
+            putAll(gone, 0);
             int spent = spentAtFirst;
             for (int i = 0; i < MOST_TRIPS; i++) {
                 int place = firstTrip(spent);
@@ -720,20 +712,39 @@ public final class LineSearch {
                 int steps = place % 10;
                 plan.add(ray, steps);
                 spent += costOf(ray, steps);
-                gone[ray] = steps;
+                put(gone, ray, steps);
             }
         }
 
         private int firstTrip(int spent) {
             for (int ray = 0; ray < rays; ray++) {
-                for (int steps = gone[ray] + 1; steps <= reach; steps++) {
-                    boolean inTime = spent <= caps[gone[ray] + 1];
-                    if (inTime && spent + costOf(ray, steps) <= most[stateAfter(ray, steps)]) {
+                int next = at(gone, ray) + 1;
+                if (spent > at(caps, next)) {
+                    continue;
+                }
+                for (int steps = next; steps <= reach; steps++) {
+                    if (spent + costOf(ray, steps) <= at(most, stateAfter(ray, steps))) {
                         return 10 * ray + steps;
                     }
                 }
             }
             return NONE;
+        }
+
+        private int costOf(int ray, int steps) {
+            int price = basePrice;
+            for (int r = 0; r < MOST_RAYS; r++) {
+                price += at(prices, r * DEPTHS + (r == ray ? steps : at(gone, r)));
+            }
+            return price * steps;
+        }
+
+        private int stateAfter(int ray, int steps) {
+            int state = 0;
+            for (int r = 0; r < MOST_RAYS; r++) {
+                state = state * DEPTHS + (r == ray ? steps : at(gone, r));
+            }
+            return state;
         }
     }
 }
