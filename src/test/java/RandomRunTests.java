@@ -7,12 +7,17 @@ public final class RandomRunTests {
         65536, 1 << 30, Integer.MAX_VALUE - 1, Integer.MAX_VALUE
     };
 
+    /** What an object answers to later calls is free. */
+    private static final int MOST_CALLS = 512;
+    private static final int ASK_ALL = 456;
+
     private final Due due;
     private final Random random;
     private final LineSearch real = new LineSearch();
     private final NaiveSearch naive = new NaiveSearch();
     private final StringBuilder run = new StringBuilder();
     private final int mostSteps;
+    private int made = 0;
 
     private RandomRunTests(Due due, long seed, int mostSteps) {
         this.due = due;
@@ -66,11 +71,12 @@ public final class RandomRunTests {
         StringBuilder call = new StringBuilder(name).append('(');
         for (int i = 0; i < with.length; i++) call.append(i == 0 ? "" : ", ").append(with[i]);
         call.append(')');
+        made++;
         run.append(' ').append(call);
         due.is(got == want ? "" : "after" + run, got, want);
     }
 
-    /** All that can be asked without changing anything. */
+    /** All that can be asked without changing anything: ASK_ALL calls. */
     private void askAll() {
         for (int ray = 0; ray < 3; ray++) {
             for (int steps = 1; steps <= 8; steps++) {
@@ -97,19 +103,30 @@ public final class RandomRunTests {
 
     private void go(int calls) {
         int kinds = 27;
-        // Some runs leave a few kinds of calls out, so that others pile up.
+        // Each run leaves one kind of calls out, so that others pile up.
         int left = random.nextInt(kinds);
-        for (int i = 0; i < calls; i++) {
+        while (made < calls) {
             int kind = random.nextInt(kinds);
             if (kind != left && (kind != 0 || random.nextInt(6) == 0)) call(kind);
         }
+    }
+
+    private void goAndAskAll() {
+        go(MOST_CALLS - ASK_ALL);
         askAll();
+        due.is("calls of a run", made, MOST_CALLS);
     }
 
     public static void main(String[] args) {
         Due due = new Due("random runs");
-        for (int seed = 0; seed < 1500; seed++) new RandomRunTests(due, seed, 5).go(512);
-        for (int seed = 0; seed < 40; seed++) new RandomRunTests(due, 7000 + seed, 8).go(300);
+        for (int seed = 0; seed < 1000; seed++) {
+            new RandomRunTests(due, seed, 5).go(MOST_CALLS);
+            new RandomRunTests(due, 3000 + seed, 5).goAndAskAll();
+        }
+        for (int seed = 0; seed < 30; seed++) {
+            new RandomRunTests(due, 7000 + seed, 8).go(300);
+            new RandomRunTests(due, 8000 + seed, 8).goAndAskAll();
+        }
         due.close();
     }
 }
